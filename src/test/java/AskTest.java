@@ -96,8 +96,20 @@ public final class AskTest {
     private static void askingChangesNothing() {
         DamageScreen screen = someWindows();
         screen.paint(1);
-        String before = Check.state(screen);
-        Check.sameState("asking", before, screen);
+        for (int[] place : OUTSIDE) {
+            screen.owner(place[0], place[1]);
+            screen.dirty(place[0], place[1]);
+        }
+        for (int pixel = 0; pixel < 120; pixel++) {
+            screen.owner(pixel % 12, pixel / 12);
+            screen.dirty(pixel % 12, pixel / 12);
+        }
+        for (int window = -1; window < 7; window++) {
+            screen.visible(window);
+        }
         Check.due("paint(1) after asking", 0, screen.paint(1));
+        Check.due("paint(4) after asking", 21, screen.paint(4));
+        Check.due("paint(0) after asking", 67, screen.paint(0));
+        Check.due("visible(2) after asking", 6, screen.visible(2));
     }
 }

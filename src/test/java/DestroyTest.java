@@ -76,16 +76,20 @@ public final class DestroyTest {
         Check.due("3 is what is left", 3, screen.owner(0, 0));
     }
 
-    private static void refusals() {
+    private static DamageScreen twoWindows() {
         DamageScreen screen = new DamageScreen();
         screen.make(0, 0x33);
         screen.make(1, 0x22);
         screen.paint(1);
-        String before = Check.state(screen);
+        return screen;
+    }
+
+    private static void refusals() {
+        DamageScreen screen = twoWindows();
         int[] wrong = {0, -1, 3, 5, 6, 100, Integer.MIN_VALUE, Integer.MAX_VALUE};
         for (int window : wrong) {
             Check.due("destroy(" + window + ")", -1, screen.destroy(window));
         }
-        Check.sameState("a refused destroy", before, screen);
+        Check.sameState("a refused destroy", twoWindows(), screen);
     }
 }

@@ -109,22 +109,31 @@ public final class MakeTest {
     }
 
     private static void refusals() {
-        DamageScreen screen = new DamageScreen();
-        screen.make(0, 0x45);
-        screen.paint(0);
-        String before = Check.state(screen);
+        DamageScreen screen = oneWindow();
         int[] wrongParents = {-1, 2, 5, 6, 7, 15, 256, Integer.MIN_VALUE, Integer.MAX_VALUE};
         for (int parent : wrongParents) {
             Check.due("make(" + parent + ", 17)", -1, screen.make(parent, 17));
         }
-        Check.sameState("a make without a parent", before, screen);
+        Check.sameState("a make without a parent", oneWindow(), screen);
+        DamageScreen full = allWindows();
+        Check.due("make(0, 17) with all windows there", -1, full.make(0, 17));
+        Check.due("make(3, 17) with all windows there", -1, full.make(3, 17));
+        Check.sameState("a make with all windows there", allWindows(), full);
+    }
+
+    private static DamageScreen oneWindow() {
+        DamageScreen screen = new DamageScreen();
+        screen.make(0, 0x45);
+        screen.paint(0);
+        return screen;
+    }
+
+    private static DamageScreen allWindows() {
+        DamageScreen screen = oneWindow();
         for (int window = 2; window < 6; window++) {
             screen.make(1, 0x11);
         }
         screen.paint(0);
-        String full = Check.state(screen);
-        Check.due("make(0, 17) with all windows there", -1, screen.make(0, 17));
-        Check.due("make(3, 17) with all windows there", -1, screen.make(3, 17));
-        Check.sameState("a make with all windows there", full, screen);
+        return screen;
     }
 }

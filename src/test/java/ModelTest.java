@@ -1,89 +1,139 @@
 /**
- * All promises: long runs of calls, always the same ones, of which each answer and each pixel must
- * be that of PlainModel.
+ * All promises: many runs of calls, always the same ones, of which each answer must be that of
+ * PlainModel. No object is called more often than the 512 times that the document speaks of.
  */
 public final class ModelTest {
-    private static final int RUNS = 300;
     private static final int CALLS = 512;
+    private static final int STATE_CALLS = 14 * 12 * 2 + 8;
+    private static final int SHORT_RUNS = 3000;
+    private static final int LONG_RUNS = 1000;
 
     private static long seed;
     private static int wrong = 0;
 
     public static void main(String[] args) {
-        for (int run = 1; run <= RUNS && wrong == 0; run++) {
-            seed = run * 7919L;
-            compareRun(run);
+        for (int run = 1; run <= SHORT_RUNS && wrong == 0; run++) {
+            shortRun(run);
+        }
+        for (int run = 1; run <= LONG_RUNS && wrong == 0; run++) {
+            longRun(run);
         }
         if (wrong != 0) {
             System.exit(1);
         }
     }
 
-    // The calls that ask count as calls too, but do not change what later ones answer.
-    private static void compareRun(int run) {
+    /** Some calls that change, and then every pixel and window. */
+    private static void shortRun(int run) {
+        seed = run * 7919L;
         DamageScreen screen = new DamageScreen();
         PlainModel model = new PlainModel();
-        for (int call = 1; call <= CALLS && wrong == 0; call++) {
-            String what = "run " + run + ", call " + call + ": " + compareCall(screen, model);
-            compareState(what, screen, model);
+        int calls = run % (CALLS - STATE_CALLS + 1);
+        for (int call = 1; call <= calls; call++) {
+            change("short run " + run + ", call " + call + ": ", screen, model);
+        }
+        compareState("short run " + run + ", after " + calls + " calls: ", screen, model);
+    }
+
+    /** As many calls as an object is good for, those that ask among those that change. */
+    private static void longRun(int run) {
+        seed = run * 104729L;
+        DamageScreen screen = new DamageScreen();
+        PlainModel model = new PlainModel();
+        for (int call = 1; call <= CALLS; call++) {
+            String where = "long run " + run + ", call " + call + ": ";
+            if (below(3) == 0) {
+                ask(where, screen, model);
+            } else {
+                change(where, screen, model);
+            }
         }
     }
 
-    private static String compareCall(DamageScreen screen, PlainModel model) {
+    private static void change(String where, DamageScreen screen, PlainModel model) {
         int w = window();
-        int a = number();
-        int b = number();
+        int a = offset();
+        int b = offset();
         int c = below(20) == 0 ? below(2000) - 1000 : below(256);
+        int x = below(20) == 0 ? below(40) - 20 : below(16);
+        int y = below(20) == 0 ? below(40) - 20 : below(16);
         boolean on = below(2) == 0;
-        switch (below(16)) {
+        switch (below(24)) {
             case 0:
             case 1:
-                return same("make(" + w + ", " + c + ")", model.make(w, c), screen.make(w, c));
             case 2:
-                if (below(3) != 0) {
-                    return "nothing";
-                }
-                return same("destroy(" + w + ")", model.destroy(w), screen.destroy(w));
+                same(where + "make(" + w + ", " + c + ")", model.make(w, c), screen.make(w, c));
+                break;
             case 3:
+                same(where + "destroy(" + w + ")", model.destroy(w), screen.destroy(w));
+                break;
             case 4:
             case 5:
-                return same("move(" + w + ", " + a + ", " + b + ")", model.move(w, a, b), screen.move(w, a, b));
             case 6:
             case 7:
-                return same("size(" + w + ", " + c + ")", model.size(w, c), screen.size(w, c));
             case 8:
-                return same("raise(" + w + ", " + on + ")", model.raise(w, on), screen.raise(w, on));
+                same(where + "move(" + w + ", " + a + ", " + b + ")", model.move(w, a, b), screen.move(w, a, b));
+                break;
             case 9:
-                return same("show(" + w + ", " + on + ")", model.show(w, on), screen.show(w, on));
             case 10:
-                int d = below(16);
-                int e = below(16);
-                return same("spoil(" + w + ", " + d + ", " + e + ", " + c + ")", model.spoil(w, d, e, c), screen.spoil(w, d, e, c));
             case 11:
-                return same("spoil(" + w + ", " + a + ", " + b + ", " + c + ")", model.spoil(w, a, b, c), screen.spoil(w, a, b, c));
+                same(where + "size(" + w + ", " + c + ")", model.size(w, c), screen.size(w, c));
+                break;
+            case 12:
+            case 13:
+                same(where + "raise(" + w + ", " + on + ")", model.raise(w, on), screen.raise(w, on));
+                break;
+            case 14:
+            case 15:
+                same(where + "show(" + w + ", " + on + ")", model.show(w, on), screen.show(w, on));
+                break;
+            case 16:
+            case 17:
+                same(where + "spoil(" + w + ", " + x + ", " + y + ", " + c + ")",
+                    model.spoil(w, x, y, c), screen.spoil(w, x, y, c));
+                break;
             default:
-                return same("paint(" + w + ")", model.paint(w), screen.paint(w));
+                same(where + "paint(" + w + ")", model.paint(w), screen.paint(w));
+                break;
         }
     }
 
-    private static void compareState(String what, DamageScreen screen, PlainModel model) {
+    private static void ask(String where, DamageScreen screen, PlainModel model) {
+        int x = below(14) - 1;
+        int y = below(12) - 1;
+        int w = window();
+        switch (below(5)) {
+            case 0:
+            case 1:
+                same(where + "owner(" + x + ", " + y + ")", model.owner(x, y), screen.owner(x, y));
+                break;
+            case 2:
+            case 3:
+                same(where + "dirty(" + x + ", " + y + ")", model.dirty(x, y), screen.dirty(x, y));
+                break;
+            default:
+                same(where + "visible(" + w + ")", model.visible(w), screen.visible(w));
+                break;
+        }
+    }
+
+    private static void compareState(String where, DamageScreen screen, PlainModel model) {
         for (int y = -1; y <= 10; y++) {
             for (int x = -1; x <= 12; x++) {
-                same(what + ", then owner(" + x + ", " + y + ")", model.owner(x, y), screen.owner(x, y));
-                same(what + ", then dirty(" + x + ", " + y + ")", model.dirty(x, y), screen.dirty(x, y));
+                same(where + "owner(" + x + ", " + y + ")", model.owner(x, y), screen.owner(x, y));
+                same(where + "dirty(" + x + ", " + y + ")", model.dirty(x, y), screen.dirty(x, y));
             }
         }
         for (int window = -1; window <= 6; window++) {
-            same(what + ", then visible(" + window + ")", model.visible(window), screen.visible(window));
+            same(where + "visible(" + window + ")", model.visible(window), screen.visible(window));
         }
     }
 
-    private static String same(String what, int want, int got) {
+    private static void same(String what, int want, int got) {
         if (want != got) {
             wrong++;
             System.out.println(what + " answered " + got + ", due is " + want);
         }
-        return what;
     }
 
     private static int window() {
@@ -91,7 +141,7 @@ public final class ModelTest {
     }
 
     // Mostly near the screen's corner, so that windows stay in sight of each other.
-    private static int number() {
+    private static int offset() {
         return below(4) == 0 ? below(35) - 17 : below(12) - 4;
     }
 

@@ -137,14 +137,18 @@ public final class MoveTest {
         Check.due("paint(0)", 16, screen.paint(0));
     }
 
-    private static void aMoveToTheSamePlace() {
+    private static DamageScreen movedWindow() {
         DamageScreen screen = new DamageScreen();
         screen.make(0, 0x44);
         screen.move(1, 2, 2);
         screen.paint(1);
-        String before = Check.state(screen);
+        return screen;
+    }
+
+    private static void aMoveToTheSamePlace() {
+        DamageScreen screen = movedWindow();
         Check.due("move to the same offset", 0, screen.move(1, 2, 2));
-        Check.sameState("a move to the same offset", before, screen);
+        Check.sameState("a move to the same offset", movedWindow(), screen);
     }
 
     private static void aHiddenWindowMoves() {
@@ -178,11 +182,7 @@ public final class MoveTest {
     }
 
     private static void refusals() {
-        DamageScreen screen = new DamageScreen();
-        screen.make(0, 0x33);
-        screen.move(1, 1, 1);
-        screen.paint(1);
-        String before = Check.state(screen);
+        DamageScreen screen = movedWindow();
         int[] wrongWindows = {0, -1, 2, 5, 6, 100, Integer.MIN_VALUE, Integer.MAX_VALUE};
         for (int window : wrongWindows) {
             Check.due("move(" + window + ", 3, 3)", -1, screen.move(window, 3, 3));
@@ -192,8 +192,8 @@ public final class MoveTest {
             Check.due("move(1, " + offset + ", 0)", -1, screen.move(1, offset, 0));
             Check.due("move(1, 0, " + offset + ")", -1, screen.move(1, 0, offset));
         }
-        Check.sameState("a refused move", before, screen);
-        screen.size(1, 0x33);
-        Check.sameState("an offset kept by a refused move", before, screen);
+        // A call that keeps everything would bring to light an offset that was taken after all.
+        screen.size(1, 0x44);
+        Check.sameState("a refused move", movedWindow(), screen);
     }
 }

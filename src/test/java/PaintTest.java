@@ -49,14 +49,18 @@ public final class PaintTest {
         Check.due("paint(0) after all", 120, screen.paint(0));
     }
 
-    private static void refusals() {
+    private static DamageScreen oneWindow() {
         DamageScreen screen = new DamageScreen();
         screen.make(0, 0x33);
-        String before = Check.state(screen);
+        return screen;
+    }
+
+    private static void refusals() {
+        DamageScreen screen = oneWindow();
         int[] wrong = {-1, 2, 5, 6, 100, Integer.MIN_VALUE, Integer.MAX_VALUE};
         for (int window : wrong) {
             Check.due("paint(" + window + ")", -1, screen.paint(window));
         }
-        Check.sameState("a refused paint", before, screen);
+        Check.sameState("a refused paint", oneWindow(), screen);
     }
 }

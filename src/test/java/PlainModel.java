@@ -1,4 +1,5 @@
 import java.util.ArrayList;
+import java.util.Arrays;
 import java.util.List;
 
 /**
@@ -55,7 +56,7 @@ final class PlainModel {
         base.width = 12;
         base.height = 10;
         for (boolean[] column : dirty) {
-            java.util.Arrays.fill(column, true);
+            Arrays.fill(column, true);
         }
     }
 

@@ -27,6 +27,8 @@ public final class RaiseTest {
         screen.raise(2, false);
         screen.make(0, 0x11);
         top("4, made last, over 3 over 1 over 2", screen, 4, 3, 1, 2);
+        screen.raise(1, false);
+        top("1 lowered under the lowered 2", screen, 4, 3, 2, 1);
     }
 
     /** Hides the windows from the top one on, and shows them again. */
@@ -93,28 +95,28 @@ public final class RaiseTest {
         Check.due("paint(2), covered in between", 4, screen.paint(2));
     }
 
-    private static void aRaiseThatChangesNothing() {
+    private static DamageScreen twoWindows() {
         DamageScreen screen = new DamageScreen();
         screen.make(0, 0x44);
         screen.make(0, 0x33);
         screen.paint(2);
-        String before = Check.state(screen);
+        return screen;
+    }
+
+    private static void aRaiseThatChangesNothing() {
+        DamageScreen screen = twoWindows();
         Check.due("raise(2, true) of the top one", 0, screen.raise(2, true));
         Check.due("raise(1, false) of the lowest one", 0, screen.raise(1, false));
-        Check.sameState("a raise to the same place", before, screen);
+        Check.sameState("a raise to the same place", twoWindows(), screen);
     }
 
     private static void refusals() {
-        DamageScreen screen = new DamageScreen();
-        screen.make(0, 0x33);
-        screen.make(0, 0x22);
-        screen.paint(2);
-        String before = Check.state(screen);
+        DamageScreen screen = twoWindows();
         int[] wrong = {0, -1, 3, 5, 6, 100, Integer.MIN_VALUE, Integer.MAX_VALUE};
         for (int window : wrong) {
             Check.due("raise(" + window + ", true)", -1, screen.raise(window, true));
             Check.due("raise(" + window + ", false)", -1, screen.raise(window, false));
         }
-        Check.sameState("a refused raise", before, screen);
+        Check.sameState("a refused raise", twoWindows(), screen);
     }
 }

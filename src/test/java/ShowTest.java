@@ -62,30 +62,33 @@ public final class ShowTest {
         Check.due("visible(1), shown after that", 4, screen.visible(1));
     }
 
-    private static void showTwice() {
+    private static DamageScreen twoWindows() {
         DamageScreen screen = new DamageScreen();
         screen.make(0, 0x44);
         screen.make(0, 0x44);
         screen.paint(2);
-        String before = Check.state(screen);
+        return screen;
+    }
+
+    private static void showTwice() {
+        DamageScreen screen = twoWindows();
         Check.due("show(2, true) of a shown one", 0, screen.show(2, true));
-        Check.sameState("a show of a shown window", before, screen);
-        screen.show(2, false);
-        String hidden = Check.state(screen);
-        Check.due("show(2, false) of a hidden one", 0, screen.show(2, false));
-        Check.sameState("a hiding of a hidden window", hidden, screen);
+        Check.sameState("a show of a shown window", twoWindows(), screen);
+        DamageScreen hiddenOnce = twoWindows();
+        DamageScreen hiddenTwice = twoWindows();
+        hiddenOnce.show(2, false);
+        hiddenTwice.show(2, false);
+        Check.due("show(2, false) of a hidden one", 0, hiddenTwice.show(2, false));
+        Check.sameState("a hiding of a hidden window", hiddenOnce, hiddenTwice);
     }
 
     private static void refusals() {
-        DamageScreen screen = new DamageScreen();
-        screen.make(0, 0x33);
-        screen.paint(1);
-        String before = Check.state(screen);
-        int[] wrong = {0, -1, 2, 5, 6, 100, Integer.MIN_VALUE, Integer.MAX_VALUE};
+        DamageScreen screen = twoWindows();
+        int[] wrong = {0, -1, 3, 5, 6, 100, Integer.MIN_VALUE, Integer.MAX_VALUE};
         for (int window : wrong) {
             Check.due("show(" + window + ", true)", -1, screen.show(window, true));
             Check.due("show(" + window + ", false)", -1, screen.show(window, false));
         }
-        Check.sameState("a refused show", before, screen);
+        Check.sameState("a refused show", twoWindows(), screen);
     }
 }

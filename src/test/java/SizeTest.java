@@ -66,15 +66,19 @@ public final class SizeTest {
         Check.due("paint(2) of what came back", 5, screen.paint(2));
     }
 
-    private static void refusals() {
+    private static DamageScreen oneWindow() {
         DamageScreen screen = new DamageScreen();
         screen.make(0, 0x33);
         screen.paint(1);
-        String before = Check.state(screen);
+        return screen;
+    }
+
+    private static void refusals() {
+        DamageScreen screen = oneWindow();
         int[] wrong = {0, -1, 2, 5, 6, 100, Integer.MIN_VALUE, Integer.MAX_VALUE};
         for (int window : wrong) {
             Check.due("size(" + window + ", 85)", -1, screen.size(window, 85));
         }
-        Check.sameState("a refused size", before, screen);
+        Check.sameState("a refused size", oneWindow(), screen);
     }
 }

@@ -83,21 +83,29 @@ public final class SpoilTest {
         Check.due("spoil of a window that owns nothing", 0, screen.spoil(2, 5, 7, 255));
     }
 
-    private static void emptyRectangles() {
+    private static DamageScreen cleanBase() {
         DamageScreen screen = new DamageScreen();
         screen.paint(0);
-        String before = Check.state(screen);
+        return screen;
+    }
+
+    private static void emptyRectangles() {
+        DamageScreen screen = cleanBase();
         Check.due("spoil of width 0", 0, screen.spoil(0, 3, 3, 0x05));
         Check.due("spoil of height 0", 0, screen.spoil(0, 3, 3, 0x50));
         Check.due("spoil of nothing", 0, screen.spoil(0, 0, 0, 0));
-        Check.sameState("an empty spoil", before, screen);
+        Check.sameState("an empty spoil", cleanBase(), screen);
     }
 
-    private static void refusals() {
+    private static DamageScreen cleanWindow() {
         DamageScreen screen = new DamageScreen();
         screen.make(0, 0x33);
         Check.paintAll(screen);
-        String before = Check.state(screen);
+        return screen;
+    }
+
+    private static void refusals() {
+        DamageScreen screen = cleanWindow();
         int[] wrongWindows = {-1, 2, 5, 6, 100, Integer.MIN_VALUE, Integer.MAX_VALUE};
         for (int window : wrongWindows) {
             Check.due("spoil(" + window + ", 0, 0, 255)", -1, screen.spoil(window, 0, 0, 255));
@@ -111,6 +119,6 @@ public final class SpoilTest {
         for (int wide : wrongWides) {
             Check.due("spoil(1, 0, 0, " + wide + ")", -1, screen.spoil(1, 0, 0, wide));
         }
-        Check.sameState("a refused spoil", before, screen);
+        Check.sameState("a refused spoil", cleanWindow(), screen);
     }
 }
