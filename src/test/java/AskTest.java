@@ -10,6 +10,12 @@ public final class AskTest {
         owners();
         dirt();
         visible();
+        everyPlaceAround();
+        farPlaces();
+        outOfRangeKeepsAll();
+        visibleOfNothing();
+        visibleOfWhatIsNotThere();
+        askingKeepsAll();
         askingChangesNothing();
         Check.end();
     }
@@ -91,6 +97,81 @@ public final class AskTest {
             Check.due("visible(" + window + ")", -1, screen.visible(window));
         }
         Check.due("visible(3), uncovered", 1, screen.visible(3));
+    }
+
+    /** Every place from just before the screen to just behind it, and far around. */
+    private static void everyPlaceAround() {
+        for (int y = -20; y <= 30; y++) {
+            DamageScreen screen = new DamageScreen();
+            screen.make(0, 0xFF);
+            screen.move(1, 5, 4);
+            screen.paint(1);
+            for (int x = -20; x <= 30; x++) {
+                boolean onScreen = x >= 0 && x <= 11 && y >= 0 && y <= 9;
+                boolean inside = x >= 5 && y >= 4;
+                String place = "(" + x + ", " + y + ")";
+                Check.due("owner" + place, !onScreen ? -1 : inside ? 1 : 0, screen.owner(x, y));
+                Check.due("dirty" + place, !onScreen ? -1 : inside ? 0 : 1, screen.dirty(x, y));
+            }
+        }
+    }
+
+    /** One number is right, the other far out: products and sums of them may come back into range. */
+    private static void farPlaces() {
+        int[] far = {
+            -12, -10, -120, -128, -256, 120, 128, 256, 1 << 16, 1 << 28, 1 << 30, -(1 << 28), -(1 << 30),
+            (1 << 28) + 1, (1 << 30) + 1, Integer.MIN_VALUE, Integer.MIN_VALUE + 1, Integer.MIN_VALUE + 11,
+            Integer.MAX_VALUE, Integer.MAX_VALUE - 1, Integer.MAX_VALUE / 12 + 1, Integer.MIN_VALUE / 12,
+        };
+        DamageScreen screen = Screens.three();
+        for (int number : far) {
+            int[][] places = {{number, 0}, {0, number}, {number, 9}, {11, number}, {number, number}};
+            for (int[] place : places) {
+                Check.due("owner(" + place[0] + ", " + place[1] + ")", -1, screen.owner(place[0], place[1]));
+                Check.due("dirty(" + place[0] + ", " + place[1] + ")", -1, screen.dirty(place[0], place[1]));
+            }
+        }
+    }
+
+    private static void outOfRangeKeepsAll() {
+        for (int[] place : OUTSIDE) {
+            String where = "(" + place[0] + ", " + place[1] + ")";
+            Check.refused("owner" + where, Screens.SOME_THERE, s -> s.owner(place[0], place[1]));
+            Check.refused("dirty" + where, Screens.SOME_THERE, s -> s.dirty(place[0], place[1]));
+        }
+    }
+
+    private static void askingKeepsAll() {
+        Check.answersAndKeeps("owner(5, 2)", 2, Screens::three, s -> s.owner(5, 2));
+        Check.answersAndKeeps("dirty(5, 2)", 1, Screens::three, s -> s.dirty(5, 2));
+        Check.answersAndKeeps("dirty(1, 1)", 0, Screens::three, s -> s.dirty(1, 1));
+        Check.answersAndKeeps("visible(2)", 4, Screens::three, s -> s.visible(2));
+    }
+
+    private static void visibleOfNothing() {
+        DamageScreen screen = Screens.hidden();
+        Check.due("visible(1), hidden", 0, screen.visible(1));
+        Check.due("visible(2), in a hidden one", 0, screen.visible(2));
+        screen.move(3, -15, 0);
+        Check.due("visible(3), outside", 0, screen.visible(3));
+        Check.due("visible(0), alone on the screen", 120, screen.visible(0));
+        screen.make(0, 0xFF);
+        Check.due("visible(0), covered", 0, screen.visible(0));
+        Check.due("visible(4), all of the screen", 120, screen.visible(4));
+        screen.make(4, 0xFF);
+        Check.due("visible(4), covered by what is in it", 0, screen.visible(4));
+    }
+
+    private static void visibleOfWhatIsNotThere() {
+        for (int window : Check.NO_WINDOWS) {
+            Check.refused("visible(" + window + ")", Screens.SOME_THERE, s -> s.visible(window));
+            Check.refused("visible(" + window + "), all there", Screens.ALL_THERE, s -> s.visible(window));
+        }
+        Check.refused("visible(4), destroyed", Screens.SOME_THERE, s -> s.visible(4));
+        for (int window = 1; window < 6; window++) {
+            int number = window;
+            Check.refused("visible(" + number + "), base alone", Screens.BASE_ALONE, s -> s.visible(number));
+        }
     }
 
     private static void askingChangesNothing() {

@@ -1,5 +1,15 @@
+import java.util.List;
+import java.util.function.Supplier;
+import java.util.function.ToIntFunction;
+
 /** Compares answers with those that are due, and ends the test with exit code 1 if one differs. */
 final class Check {
+    /** Numbers that are no window's; most of them become one if bits are cut off or a sign is lost. */
+    static final int[] NO_WINDOWS = {
+        -1, -2, -5, -6, -8, -255, -256, -65535, 6, 7, 8, 9, 15, 16, 17, 32, 33, 128, 255, 256, 257,
+        65536, 65537, Integer.MIN_VALUE, Integer.MIN_VALUE + 1, Integer.MAX_VALUE, Integer.MAX_VALUE - 1,
+    };
+
     private static int wrong = 0;
 
     private Check() {
@@ -26,7 +36,7 @@ final class Check {
             for (int x = 0; x < 12; x++) {
                 got.append(screen.owner(x, y));
             }
-            sameRow(what + ", owners of row " + y, rows[y], got.toString());
+            same(what + ", owners of row " + y, rows[y], got.toString());
         }
     }
 
@@ -37,13 +47,13 @@ final class Check {
             for (int x = 0; x < 12; x++) {
                 got.append(screen.dirty(x, y) == 1 ? '#' : '.');
             }
-            sameRow(what + ", dirt of row " + y, rows[y], got.toString());
+            same(what + ", dirt of row " + y, rows[y], got.toString());
         }
     }
 
     /**
-     * Everything that can be asked of a screen without changing it. This takes 246 of the 512 calls
-     * that an object is good for, so a state to compare with is taken from an object of its own.
+     * The answers of all asking methods. This takes 246 of the 512 calls that an object is good for:
+     * it can be taken twice of an object that was made by no more than some twenty calls.
      */
     private static String state(DamageScreen screen) {
         StringBuilder all = new StringBuilder();
@@ -60,12 +70,53 @@ final class Check {
     }
 
     static void sameState(String what, DamageScreen unchanged, DamageScreen screen) {
-        String before = state(unchanged);
-        String now = state(screen);
-        if (!now.equals(before)) {
-            wrong++;
-            System.out.println(what + " changed the screen from\n" + before + "\nto\n" + now);
+        same(what + " changed the screen", state(unchanged), state(screen));
+    }
+
+    /** The call is refused on each of these screens: it answers -1 and changes nothing. */
+    static void refused(String what, List<Supplier<DamageScreen>> screens, ToIntFunction<DamageScreen> call) {
+        for (int number = 0; number < screens.size(); number++) {
+            answersAndKeeps(what + " on screen " + number, -1, screens.get(number), call);
         }
+    }
+
+    /** The call has the answer that is due, and changes nothing, be it at once or later. */
+    static void answersAndKeeps(String what, int want, Supplier<DamageScreen> made, ToIntFunction<DamageScreen> call) {
+        DamageScreen screen = made.get();
+        String before = state(screen);
+        due(what, want, call.applyAsInt(screen));
+        same(what + " changed the screen", before, state(screen));
+        nothingShowsLater(what, made, call);
+    }
+
+    // What is hidden or covered can't be asked for: windows are shown and hidden in every way, once
+    // after the call and once without it.
+    private static void nothingShowsLater(String what, Supplier<DamageScreen> made, ToIntFunction<DamageScreen> call) {
+        for (int shown = 0; shown < 64; shown += 2) {
+            DamageScreen without = made.get();
+            DamageScreen with = made.get();
+            call.applyAsInt(with);
+            String later = what + ", then windows " + Integer.toBinaryString(shown) + " shown";
+            same(later + ": answers", showSome(without, shown), showSome(with, shown));
+            same(later, state(without), state(with));
+            same(later + ": make and destroy", makeAndDestroy(without), makeAndDestroy(with));
+        }
+    }
+
+    private static String showSome(DamageScreen screen, int shown) {
+        String answers = "";
+        for (int window = 1; window < 6; window++) {
+            answers += screen.show(window, (shown >> window & 1) == 1) + " ";
+        }
+        return answers;
+    }
+
+    private static String makeAndDestroy(DamageScreen screen) {
+        String answers = screen.make(0, 0x53) + " ";
+        for (int window = 5; window > 0; window--) {
+            answers += screen.destroy(window) + " ";
+        }
+        return answers;
     }
 
     static void paintAll(DamageScreen screen) {
@@ -81,10 +132,10 @@ final class Check {
         }
     }
 
-    private static void sameRow(String what, String want, String got) {
+    private static void same(String what, String want, String got) {
         if (!want.equals(got)) {
             wrong++;
-            System.out.println(what + ": got " + got + ", due is " + want);
+            System.out.println(what + ": got\n" + got + "\ndue is\n" + want);
         }
     }
 }

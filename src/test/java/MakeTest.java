@@ -2,11 +2,19 @@
 public final class MakeTest {
     public static void main(String[] args) {
         leastFreeNumber();
-        sides();
+        leastFreeNumberAfterDestroys();
+        numbersOfWindowsThatWentWithTheirParent();
+        sidesOfEverySize();
+        aSideOfZeroIsOne();
+        aSideAboveTwelveIsTwelve();
+        bitsBeyondTheLowestEight();
         placeAndStack();
+        onTopAlsoAfterRaises();
         aFreedNumberBeginsAnew();
         onlyTheNewWindowIsDirty();
-        refusals();
+        hiddenAndCoveredParentsAreTaken();
+        refusedIfTheParentIsNotThere();
+        refusedIfAllWindowsAreThere();
         Check.end();
     }
 
@@ -15,45 +23,80 @@ public final class MakeTest {
         for (int window = 1; window < 6; window++) {
             Check.due("make number " + window, window, screen.make(0, 0x11));
         }
-        screen.destroy(4);
-        screen.destroy(2);
-        Check.due("make with 2 and 4 free", 2, screen.make(0, 0x11));
-        Check.due("make with 4 free", 4, screen.make(0, 0x11));
-        Check.due("make with none free", -1, screen.make(0, 0x11));
     }
 
-    private static void sides() {
-        int[][] cases = {
-            // size, width and height that are seen on the screen
-            {0x00, 1, 1}, {0x01, 1, 1}, {0x10, 1, 1}, {0x25, 5, 2}, {0x52, 2, 5},
-            {0x9B, 11, 9}, {0x1C, 12, 1}, {0x1D, 12, 1}, {0x1F, 12, 1}, {0xC1, 1, 10},
-            {0xF1, 1, 10}, {0x0F, 12, 1}, {0xF0, 1, 10}, {0x100, 1, 1}, {0x723, 3, 2},
-            {-1, 12, 10}, {-256, 1, 1}, {-221, 3, 2},
-            {Integer.MIN_VALUE, 1, 1}, {Integer.MAX_VALUE, 12, 10},
-        };
-        for (int[] c : cases) {
+    /** Every set of windows that are destroyed is filled up from the least number on. */
+    private static void leastFreeNumberAfterDestroys() {
+        for (int freed = 0; freed < 64; freed += 2) {
             DamageScreen screen = new DamageScreen();
-            screen.make(0, c[0]);
-            Check.due("visible of size " + c[0], c[1] * c[2], screen.visible(1));
-            Check.due("last pixel of size " + c[0], 1, screen.owner(c[1] - 1, c[2] - 1));
+            for (int window = 1; window < 6; window++) {
+                screen.make(0, 0x11);
+            }
+            for (int window = 5; window > 0; window--) {
+                if ((freed >> window & 1) == 1) {
+                    screen.destroy(window);
+                }
+            }
+            for (int window = 1; window < 6; window++) {
+                if ((freed >> window & 1) == 1) {
+                    Check.due("make with " + Integer.toBinaryString(freed) + " free", window, screen.make(0, 0x11));
+                }
+            }
+            Check.due("make with none free", -1, screen.make(0, 0x11));
         }
-        // The screen is too small to show a height above 10 otherwise.
+    }
+
+    private static void numbersOfWindowsThatWentWithTheirParent() {
         DamageScreen screen = new DamageScreen();
-        screen.make(0, 0xFF);
-        screen.move(1, -11, -11);
-        Check.due("sides above 12 are at least 12", 1, screen.visible(1));
-        screen.move(1, -12, 0);
-        Check.due("a width above 12 is 12", 0, screen.visible(1));
-        screen.move(1, 0, -12);
-        Check.due("a height above 12 is 12", 0, screen.visible(1));
-        DamageScreen lower = new DamageScreen();
-        lower.make(0, 0xBB);
-        lower.move(1, -10, -10);
-        Check.due("sides of 11 are at least 11", 1, lower.visible(1));
-        lower.move(1, -11, 0);
-        Check.due("a width of 11", 0, lower.visible(1));
-        lower.move(1, 0, -11);
-        Check.due("a height of 11", 0, lower.visible(1));
+        for (int parent = 0; parent < 5; parent++) {
+            screen.make(parent, 0x11);
+        }
+        screen.destroy(2);
+        for (int window = 2; window < 6; window++) {
+            Check.due("make after destroy(2)", window, screen.make(window == 3 ? 2 : 1, 0x11));
+        }
+        Check.due("destroy(2), with 3 alone in it", 2, screen.destroy(2));
+    }
+
+    private static void sidesOfEverySize() {
+        for (int size = 0; size < 256; size++) {
+            Sides.check("make(0, " + size + ")", size, made(size));
+        }
+    }
+
+    private static void aSideOfZeroIsOne() {
+        Check.due("visible of 0 by 0", 1, made(0x00).visible(1));
+        Check.due("visible of 0 by 5", 5, made(0x50).visible(1));
+        Check.due("visible of 5 by 0", 5, made(0x05).visible(1));
+    }
+
+    private static void aSideAboveTwelveIsTwelve() {
+        for (int side = 12; side < 16; side++) {
+            DamageScreen wide = made(0x10 + side);
+            Check.due("visible of a width of " + side, 12, wide.visible(1));
+            wide.move(1, -11, 0);
+            Check.due("the last pixel of a width of " + side, 1, wide.visible(1));
+            wide.move(1, -12, 0);
+            Check.due("beyond a width of " + side, 0, wide.visible(1));
+            DamageScreen high = made(side * 16 + 1);
+            Check.due("visible of a height of " + side, 10, high.visible(1));
+            high.move(1, 0, -11);
+            Check.due("the last pixel of a height of " + side, 1, high.visible(1));
+            high.move(1, 0, -12);
+            Check.due("beyond a height of " + side, 0, high.visible(1));
+        }
+    }
+
+    private static void bitsBeyondTheLowestEight() {
+        for (int size : Sides.BEYOND_EIGHT_BITS) {
+            Sides.check("make(0, " + size + ")", size, made(size));
+        }
+    }
+
+    private static DamageScreen made(int size) {
+        DamageScreen screen = new DamageScreen();
+        Check.due("make(0, " + size + ")", 1, screen.make(0, size));
+        return screen;
     }
 
     private static void placeAndStack() {
@@ -75,6 +118,24 @@ public final class MakeTest {
             "000000000000",
             "000000000000",
             "000000000000");
+    }
+
+    private static void onTopAlsoAfterRaises() {
+        DamageScreen screen = new DamageScreen();
+        screen.make(0, 0x44);
+        screen.make(0, 0x33);
+        screen.raise(1, true);
+        screen.raise(2, true);
+        screen.raise(1, true);
+        screen.make(0, 0x22);
+        Check.due("a new window over raised ones", 3, screen.owner(0, 0));
+        screen.make(1, 0x11);
+        Check.due("a new window in a lower one is under the upper one", 3, screen.owner(0, 0));
+        Check.due("visible(4)", 0, screen.visible(4));
+        screen.raise(3, false);
+        Check.due("a new window in the upper one", 4, screen.owner(0, 0));
+        screen.make(0, 0x11);
+        Check.due("a new window over the one around it", 5, screen.owner(0, 0));
     }
 
     private static void aFreedNumberBeginsAnew() {
@@ -108,32 +169,37 @@ public final class MakeTest {
             "............");
     }
 
-    private static void refusals() {
-        DamageScreen screen = oneWindow();
-        int[] wrongParents = {-1, 2, 5, 6, 7, 15, 256, Integer.MIN_VALUE, Integer.MAX_VALUE};
-        for (int parent : wrongParents) {
-            Check.due("make(" + parent + ", 17)", -1, screen.make(parent, 17));
+    private static void refusedIfTheParentIsNotThere() {
+        for (int parent : Check.NO_WINDOWS) {
+            Check.refused("make(" + parent + ", 85)", Screens.BASE_ALONE, s -> s.make(parent, 85));
+            Check.refused("make(" + parent + ", 85)", Screens.SOME_THERE, s -> s.make(parent, 85));
         }
-        Check.sameState("a make without a parent", oneWindow(), screen);
-        DamageScreen full = allWindows();
-        Check.due("make(0, 17) with all windows there", -1, full.make(0, 17));
-        Check.due("make(3, 17) with all windows there", -1, full.make(3, 17));
-        Check.sameState("a make with all windows there", allWindows(), full);
+        for (int parent = 1; parent < 6; parent++) {
+            int number = parent;
+            Check.refused("make(" + number + ", 85), base alone", Screens.BASE_ALONE, s -> s.make(number, 85));
+        }
+        Check.refused("make(4, 85), 4 destroyed", Screens.SOME_THERE, s -> s.make(4, 85));
+        Check.refused("make(5, 85), 5 destroyed with 4", Screens.SOME_THERE, s -> s.make(5, 85));
     }
 
-    private static DamageScreen oneWindow() {
-        DamageScreen screen = new DamageScreen();
-        screen.make(0, 0x45);
-        screen.paint(0);
-        return screen;
+    private static void refusedIfAllWindowsAreThere() {
+        for (int parent = 0; parent < 6; parent++) {
+            int number = parent;
+            Check.refused("make(" + number + ", 85), all there", Screens.ALL_THERE, s -> s.make(number, 85));
+        }
+        Check.refused("make(6, 85), all there", Screens.ALL_THERE, s -> s.make(6, 85));
+        Check.refused("make(-1, -1), all there", Screens.ALL_THERE, s -> s.make(-1, -1));
+        DamageScreen screen = Screens.full();
+        screen.make(0, 85);
+        screen.destroy(3);
+        Check.due("make after a refusal and a destroy", 3, screen.make(4, 85));
     }
 
-    private static DamageScreen allWindows() {
-        DamageScreen screen = oneWindow();
-        for (int window = 2; window < 6; window++) {
-            screen.make(1, 0x11);
-        }
-        screen.paint(0);
-        return screen;
+    private static void hiddenAndCoveredParentsAreTaken() {
+        DamageScreen screen = Screens.hidden();
+        Check.due("make in a hidden window", 4, screen.make(1, 0x33));
+        Check.due("make in a window of a hidden one", 5, screen.make(2, 0x33));
+        Check.due("visible(4)", 0, screen.visible(4));
+        Check.due("visible(5)", 0, screen.visible(5));
     }
 }

@@ -7,10 +7,14 @@ public final class MoveTest {
         whatWasCoveredIsDirty();
         dirtyPixelsGoAlong();
         windowsInsideGoAlong();
-        aMoveToTheSamePlace();
         aHiddenWindowMoves();
         theEdgesOfTheOffset();
-        refusals();
+        everyOffset();
+        farOffsetsAddUp();
+        refusedJustBeyondTheOffsets();
+        refusedFarBeyondTheOffsets();
+        refusedIfNotThere();
+        refusedForTheBase();
         Check.end();
     }
 
@@ -137,20 +141,6 @@ public final class MoveTest {
         Check.due("paint(0)", 16, screen.paint(0));
     }
 
-    private static DamageScreen movedWindow() {
-        DamageScreen screen = new DamageScreen();
-        screen.make(0, 0x44);
-        screen.move(1, 2, 2);
-        screen.paint(1);
-        return screen;
-    }
-
-    private static void aMoveToTheSamePlace() {
-        DamageScreen screen = movedWindow();
-        Check.due("move to the same offset", 0, screen.move(1, 2, 2));
-        Check.sameState("a move to the same offset", movedWindow(), screen);
-    }
-
     private static void aHiddenWindowMoves() {
         DamageScreen screen = new DamageScreen();
         screen.make(0, 0x22);
@@ -181,19 +171,90 @@ public final class MoveTest {
         Check.due("owner(0, 0)", 2, screen.owner(0, 0));
     }
 
-    private static void refusals() {
-        DamageScreen screen = movedWindow();
-        int[] wrongWindows = {0, -1, 2, 5, 6, 100, Integer.MIN_VALUE, Integer.MAX_VALUE};
-        for (int window : wrongWindows) {
-            Check.due("move(" + window + ", 3, 3)", -1, screen.move(window, 3, 3));
+    /** Every offset, and what lies just beyond; the pixels that are seen follow from it. */
+    private static void everyOffset() {
+        for (int dx = -17; dx <= 17; dx++) {
+            DamageScreen screen = new DamageScreen();
+            screen.make(0, 0xCC);
+            int seen = 120;
+            for (int dy = -17; dy <= 17; dy++) {
+                boolean taken = dx >= -15 && dx <= 15 && dy >= -15 && dy <= 15;
+                Check.due("move(1, " + dx + ", " + dy + ")", taken ? 0 : -1, screen.move(1, dx, dy));
+                seen = taken ? overlap(dx, 12) * overlap(dy, 10) : seen;
+                Check.due("visible(1) after move(1, " + dx + ", " + dy + ")", seen, screen.visible(1));
+            }
         }
-        int[] wrongOffsets = {-16, 16, 17, 100, -100, Integer.MIN_VALUE, Integer.MAX_VALUE};
-        for (int offset : wrongOffsets) {
-            Check.due("move(1, " + offset + ", 0)", -1, screen.move(1, offset, 0));
-            Check.due("move(1, 0, " + offset + ")", -1, screen.move(1, 0, offset));
+    }
+
+    /** How much of 12 pixels from an offset on lies on the screen. */
+    private static int overlap(int offset, int screenSide) {
+        return Math.max(0, Math.min(offset + 12, screenSide) - Math.max(offset, 0));
+    }
+
+    private static void farOffsetsAddUp() {
+        DamageScreen screen = new DamageScreen();
+        for (int parent = 0; parent < 5; parent++) {
+            screen.make(parent, 0xCC);
         }
-        // A call that keeps everything would bring to light an offset that was taken after all.
-        screen.size(1, 0x44);
-        Check.sameState("a refused move", movedWindow(), screen);
+        for (int window = 1; window < 6; window++) {
+            Check.due("move(" + window + ", 15, 15)", 0, screen.move(window, 15, 15));
+            Check.due("visible(" + window + ") far away", 0, screen.visible(window));
+        }
+        Check.due("spoil of a window far away", 0, screen.spoil(5, 15, 15, 0xFF));
+        for (int window = 1; window < 6; window++) {
+            screen.move(window, -15, -15);
+        }
+        Check.due("spoil of a window far away on the other side", 0, screen.spoil(5, 15, 15, 0xFF));
+        Check.due("visible(0), all far away", 120, screen.visible(0));
+        for (int window = 1; window < 6; window++) {
+            screen.move(window, 0, 0);
+        }
+        Check.due("visible(5), back again", 120, screen.visible(5));
+    }
+
+    private static void refusedJustBeyondTheOffsets() {
+        int[] wrong = {-16, 16};
+        for (int offset : wrong) {
+            refusedOffsets(offset, 0);
+            refusedOffsets(offset, 15);
+            refusedOffsets(offset, -15);
+            refusedOffsets(offset, 16);
+            refusedOffsets(offset, -16);
+        }
+    }
+
+    private static void refusedFarBeyondTheOffsets() {
+        int[] wrong = {
+            -17, 17, -31, 31, -32, 32, -255, 255, -256, 256, 257, 65536, -65536, 65537,
+            Integer.MIN_VALUE, Integer.MIN_VALUE + 1, Integer.MAX_VALUE,
+        };
+        for (int offset : wrong) {
+            refusedOffsets(offset, 2);
+        }
+    }
+
+    private static void refusedOffsets(int wrong, int other) {
+        String numbers = wrong + ", " + other;
+        Check.refused("move(1, " + numbers + ")", Screens.SOME_THERE, s -> s.move(1, wrong, other));
+        Check.refused("move(2) the other way, " + numbers, Screens.SOME_THERE, s -> s.move(2, other, wrong));
+    }
+
+    private static void refusedIfNotThere() {
+        for (int window : Check.NO_WINDOWS) {
+            Check.refused("move(" + window + ", 3, 3)", Screens.SOME_THERE, s -> s.move(window, 3, 3));
+            Check.refused("move(" + window + ", 3, 3), all there", Screens.ALL_THERE, s -> s.move(window, 3, 3));
+        }
+        for (int window = 1; window < 6; window++) {
+            int number = window;
+            Check.refused("move(" + number + ", 3, 3), base alone", Screens.BASE_ALONE, s -> s.move(number, 3, 3));
+        }
+        Check.refused("move(4, 16, 0), nothing right", Screens.SOME_THERE, s -> s.move(4, 16, 0));
+    }
+
+    private static void refusedForTheBase() {
+        Check.refused("move(0, 3, 3)", Screens.SOME_THERE, s -> s.move(0, 3, 3));
+        Check.refused("move(0, 0, 0)", Screens.SOME_THERE, s -> s.move(0, 0, 0));
+        Check.refused("move(0, -15, 15)", Screens.ALL_THERE, s -> s.move(0, -15, 15));
+        Check.refused("move(0, 3, 3), base alone", Screens.BASE_ALONE, s -> s.move(0, 3, 3));
     }
 }

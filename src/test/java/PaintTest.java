@@ -3,8 +3,10 @@ public final class PaintTest {
     public static void main(String[] args) {
         onlyOwnPixels();
         onlyDirtyOnesCount();
+        nothingDirty();
         nothingOwned();
-        refusals();
+        everythingDirty();
+        refusedIfNotThere();
         Check.end();
     }
 
@@ -40,6 +42,14 @@ public final class PaintTest {
         Check.due("dirty(4, 4)", 0, screen.dirty(4, 4));
     }
 
+    private static void nothingDirty() {
+        Check.answersAndKeeps("paint(3), nothing dirty", 0, Screens::three, s -> s.paint(3));
+        Check.answersAndKeeps("paint(0), nothing dirty", 0, Screens::three, s -> s.paint(0));
+        DamageScreen screen = Screens.three();
+        Check.due("paint(1)", 4, screen.paint(1));
+        Check.due("paint(1) again", 0, screen.paint(1));
+    }
+
     private static void nothingOwned() {
         DamageScreen screen = new DamageScreen();
         screen.make(0, 0xAC);
@@ -47,20 +57,41 @@ public final class PaintTest {
         screen.show(1, false);
         Check.due("paint(1) of a hidden window", 0, screen.paint(1));
         Check.due("paint(0) after all", 120, screen.paint(0));
+        Check.answersAndKeeps("paint(1), hidden", 0, Screens::hidden, s -> s.paint(1));
+        Check.answersAndKeeps("paint(2), in a hidden one", 0, Screens::hidden, s -> s.paint(2));
+        Check.answersAndKeeps("paint(1), outside", 0, PaintTest::outside, s -> s.paint(1));
+        Check.answersAndKeeps("paint(2), in one that is outside", 0, PaintTest::outside, s -> s.paint(2));
+        Check.answersAndKeeps("paint(3), covered", 0, PaintTest::outside, s -> s.paint(3));
     }
 
-    private static DamageScreen oneWindow() {
+    /** Window 1 is outside, with 2 in it; 3 is covered by 4. Nothing is painted. */
+    private static DamageScreen outside() {
         DamageScreen screen = new DamageScreen();
         screen.make(0, 0x33);
+        screen.make(1, 0x33);
+        screen.make(0, 0x33);
+        screen.make(0, 0x44);
+        screen.move(1, 12, 0);
         return screen;
     }
 
-    private static void refusals() {
-        DamageScreen screen = oneWindow();
-        int[] wrong = {-1, 2, 5, 6, 100, Integer.MIN_VALUE, Integer.MAX_VALUE};
-        for (int window : wrong) {
-            Check.due("paint(" + window + ")", -1, screen.paint(window));
+    private static void everythingDirty() {
+        Check.due("paint(0) of the whole screen", 120, new DamageScreen().paint(0));
+        DamageScreen screen = new DamageScreen();
+        screen.make(0, 0xFF);
+        Check.due("paint(1) of the whole screen", 120, screen.paint(1));
+        Check.due("dirty(0, 0)", 0, screen.dirty(0, 0));
+        Check.due("dirty(11, 9)", 0, screen.dirty(11, 9));
+    }
+
+    private static void refusedIfNotThere() {
+        for (int window : Check.NO_WINDOWS) {
+            Check.refused("paint(" + window + ")", Screens.SOME_THERE, s -> s.paint(window));
+            Check.refused("paint(" + window + "), all there", Screens.ALL_THERE, s -> s.paint(window));
         }
-        Check.sameState("a refused paint", oneWindow(), screen);
+        for (int window = 1; window < 6; window++) {
+            int number = window;
+            Check.refused("paint(" + number + "), base alone", Screens.BASE_ALONE, s -> s.paint(number));
+        }
     }
 }

@@ -3,9 +3,12 @@ public final class ShowTest {
     public static void main(String[] args) {
         hideAndShow();
         windowsInsideVanish();
+        hidingTheWindowAroundKeepsWhatIsHiddenInside();
         placeAndOrderAreKept();
-        showTwice();
-        refusals();
+        whatIsShownAlready();
+        whatIsHiddenAlready();
+        refusedIfNotThere();
+        refusedForTheBase();
         Check.end();
     }
 
@@ -62,33 +65,59 @@ public final class ShowTest {
         Check.due("visible(1), shown after that", 4, screen.visible(1));
     }
 
-    private static DamageScreen twoWindows() {
-        DamageScreen screen = new DamageScreen();
-        screen.make(0, 0x44);
-        screen.make(0, 0x44);
-        screen.paint(2);
-        return screen;
-    }
-
-    private static void showTwice() {
-        DamageScreen screen = twoWindows();
-        Check.due("show(2, true) of a shown one", 0, screen.show(2, true));
-        Check.sameState("a show of a shown window", twoWindows(), screen);
-        DamageScreen hiddenOnce = twoWindows();
-        DamageScreen hiddenTwice = twoWindows();
-        hiddenOnce.show(2, false);
-        hiddenTwice.show(2, false);
-        Check.due("show(2, false) of a hidden one", 0, hiddenTwice.show(2, false));
-        Check.sameState("a hiding of a hidden window", hiddenOnce, hiddenTwice);
-    }
-
-    private static void refusals() {
-        DamageScreen screen = twoWindows();
-        int[] wrong = {0, -1, 3, 5, 6, 100, Integer.MIN_VALUE, Integer.MAX_VALUE};
-        for (int window : wrong) {
-            Check.due("show(" + window + ", true)", -1, screen.show(window, true));
-            Check.due("show(" + window + ", false)", -1, screen.show(window, false));
+    private static void whatIsShownAlready() {
+        for (int window = 1; window < 6; window++) {
+            int number = window;
+            Check.answersAndKeeps("show(" + number + ", true), shown already", 0, Screens::full,
+                s -> s.show(number, true));
         }
-        Check.sameState("a refused show", twoWindows(), screen);
+        Check.answersAndKeeps("show(2, true), shown already in a hidden one", 0, Screens::hidden,
+            s -> s.show(2, true));
+    }
+
+    private static void whatIsHiddenAlready() {
+        Check.answersAndKeeps("show(1, false), hidden already", 0, Screens::hidden, s -> s.show(1, false));
+        DamageScreen screen = Screens.hidden();
+        screen.show(1, false);
+        screen.show(1, false);
+        screen.show(1, true);
+        Check.due("visible(1), hidden thrice and shown once", 26, screen.visible(1));
+        Check.due("visible(2), in it", 4, screen.visible(2));
+        screen.show(1, true);
+        screen.show(1, false);
+        Check.due("visible(1), shown twice and hidden once", 0, screen.visible(1));
+    }
+
+    private static void hidingTheWindowAroundKeepsWhatIsHiddenInside() {
+        DamageScreen screen = Screens.hidden();
+        screen.show(2, false);
+        screen.show(1, true);
+        Check.due("visible(2), hidden itself", 0, screen.visible(2));
+        screen.show(2, true);
+        Check.due("visible(2), shown", 4, screen.visible(2));
+    }
+
+    private static void refusedIfNotThere() {
+        for (int window : Check.NO_WINDOWS) {
+            refusedBothWays(window);
+        }
+        for (int window = 1; window < 6; window++) {
+            int number = window;
+            Check.refused("show(" + number + ", true), base alone", Screens.BASE_ALONE, s -> s.show(number, true));
+            Check.refused("show(" + number + ", false), base alone", Screens.BASE_ALONE, s -> s.show(number, false));
+        }
+    }
+
+    private static void refusedForTheBase() {
+        refusedBothWays(0);
+        Check.refused("show(0, true), base alone", Screens.BASE_ALONE, s -> s.show(0, true));
+        Check.refused("show(0, false), base alone", Screens.BASE_ALONE, s -> s.show(0, false));
+    }
+
+    private static void refusedBothWays(int window) {
+        Check.refused("show(" + window + ", true)", Screens.SOME_THERE, s -> s.show(window, true));
+        Check.refused("show(" + window + ", false)", Screens.SOME_THERE, s -> s.show(window, false));
+        Check.refused("show(" + window + ", true), all there", Screens.ALL_THERE, s -> s.show(window, true));
+        Check.refused("show(" + window + ", false), all there", Screens.ALL_THERE, s -> s.show(window, false));
     }
 }

@@ -1,34 +1,72 @@
 /** Promise 5: size. */
 public final class SizeTest {
     public static void main(String[] args) {
-        sides();
+        sidesOfEverySize();
+        aSideOfZeroIsOne();
+        aSideAboveTwelveIsTwelve();
+        bitsBeyondTheLowestEight();
+        theRestIsKept();
         whatIsGainedIsDirty();
         windowsInsideAreCut();
-        refusals();
+        refusedIfNotThere();
+        refusedForTheBase();
         Check.end();
     }
 
-    private static void sides() {
+    private static void sidesOfEverySize() {
+        for (int size = 0; size < 256; size++) {
+            Sides.check("size(1, " + size + ")", size, sized(size));
+        }
+    }
+
+    private static void aSideOfZeroIsOne() {
+        Check.due("visible of 0 by 0", 1, sized(0x00).visible(1));
+        Check.due("visible of 0 by 5", 5, sized(0x50).visible(1));
+        Check.due("visible of 5 by 0", 5, sized(0x05).visible(1));
+    }
+
+    private static void aSideAboveTwelveIsTwelve() {
+        for (int side = 12; side < 16; side++) {
+            DamageScreen wide = sized(0x10 + side);
+            wide.move(1, -11, 0);
+            Check.due("the last pixel of a width of " + side, 1, wide.visible(1));
+            wide.move(1, -12, 0);
+            Check.due("beyond a width of " + side, 0, wide.visible(1));
+            DamageScreen high = sized(side * 16 + 1);
+            high.move(1, 0, -11);
+            Check.due("the last pixel of a height of " + side, 1, high.visible(1));
+            high.move(1, 0, -12);
+            Check.due("beyond a height of " + side, 0, high.visible(1));
+        }
+    }
+
+    private static void bitsBeyondTheLowestEight() {
+        for (int size : Sides.BEYOND_EIGHT_BITS) {
+            Sides.check("size(1, " + size + ")", size, sized(size));
+        }
+    }
+
+    private static DamageScreen sized(int size) {
         DamageScreen screen = new DamageScreen();
         screen.make(0, 0x77);
-        int[][] cases = {
-            // size, width and height that are seen on the screen
-            {0x00, 1, 1}, {0x25, 5, 2}, {0x52, 2, 5}, {0x1C, 12, 1}, {0x1D, 12, 1}, {0x0F, 12, 1},
-            {0xF0, 1, 10}, {0x100, 1, 1}, {0x723, 3, 2}, {-1, 12, 10}, {-221, 3, 2},
-            {Integer.MIN_VALUE, 1, 1}, {Integer.MAX_VALUE, 12, 10},
-        };
-        for (int[] c : cases) {
-            Check.due("size(1, " + c[0] + ")", 0, screen.size(1, c[0]));
-            Check.due("visible of size " + c[0], c[1] * c[2], screen.visible(1));
-            Check.due("last pixel of size " + c[0], 1, screen.owner(c[1] - 1, c[2] - 1));
-        }
-        screen.size(1, 0xDD);
-        screen.move(1, -11, -11);
-        Check.due("sides above 12 are at least 12", 1, screen.visible(1));
-        screen.move(1, -12, 0);
-        Check.due("a width above 12 is 12", 0, screen.visible(1));
-        screen.move(1, 0, -12);
-        Check.due("a height above 12 is 12", 0, screen.visible(1));
+        Check.due("size(1, " + size + ")", 0, screen.size(1, size));
+        return screen;
+    }
+
+    private static void theRestIsKept() {
+        DamageScreen screen = new DamageScreen();
+        screen.make(0, 0x33);
+        screen.make(0, 0x33);
+        screen.move(1, 1, 1);
+        screen.size(1, 0x44);
+        Check.due("owner(1, 1), 1 is still under 2", 2, screen.owner(1, 1));
+        Check.due("owner(4, 4), 1 is still at (1, 1)", 1, screen.owner(4, 4));
+        Check.due("visible(1)", 12, screen.visible(1));
+        screen.show(2, false);
+        Check.due("size of a hidden window", 0, screen.size(2, 0x66));
+        Check.due("visible(2), still hidden", 0, screen.visible(2));
+        screen.show(2, true);
+        Check.due("visible(2), shown", 36, screen.visible(2));
     }
 
     private static void whatIsGainedIsDirty() {
@@ -66,19 +104,22 @@ public final class SizeTest {
         Check.due("paint(2) of what came back", 5, screen.paint(2));
     }
 
-    private static DamageScreen oneWindow() {
-        DamageScreen screen = new DamageScreen();
-        screen.make(0, 0x33);
-        screen.paint(1);
-        return screen;
+    private static void refusedIfNotThere() {
+        for (int window : Check.NO_WINDOWS) {
+            Check.refused("size(" + window + ", 85)", Screens.SOME_THERE, s -> s.size(window, 85));
+            Check.refused("size(" + window + ", 85), all there", Screens.ALL_THERE, s -> s.size(window, 85));
+        }
+        for (int window = 1; window < 6; window++) {
+            int number = window;
+            Check.refused("size(" + number + ", 85), base alone", Screens.BASE_ALONE, s -> s.size(number, 85));
+        }
     }
 
-    private static void refusals() {
-        DamageScreen screen = oneWindow();
-        int[] wrong = {0, -1, 2, 5, 6, 100, Integer.MIN_VALUE, Integer.MAX_VALUE};
-        for (int window : wrong) {
-            Check.due("size(" + window + ", 85)", -1, screen.size(window, 85));
+    private static void refusedForTheBase() {
+        int[] sizes = {0, 0x11, 0x55, 0xAC, 0xFF, -1};
+        for (int size : sizes) {
+            Check.refused("size(0, " + size + ")", Screens.SOME_THERE, s -> s.size(0, size));
+            Check.refused("size(0, " + size + "), base alone", Screens.BASE_ALONE, s -> s.size(0, size));
         }
-        Check.sameState("a refused size", oneWindow(), screen);
     }
 }
