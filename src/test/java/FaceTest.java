@@ -16,7 +16,8 @@ public final class FaceTest {
 
     public static void main(String[] args) {
         Class<DamageScreen> face = DamageScreen.class;
-        Check.isTrue("the class is public and final", Modifier.isPublic(face.getModifiers()) && Modifier.isFinal(face.getModifiers()));
+        Check.isTrue("the class is public and final",
+            Modifier.isPublic(face.getModifiers()) && Modifier.isFinal(face.getModifiers()));
         Check.due("nested classes", 0, face.getDeclaredClasses().length);
         Check.due("interfaces", 0, face.getInterfaces().length);
         constructors(face);
@@ -63,7 +64,8 @@ public final class FaceTest {
             Check.isTrue(field + " is private", Modifier.isPrivate(field.getModifiers()));
             Class<?> type = field.getType();
             if (Modifier.isStatic(field.getModifiers())) {
-                Check.isTrue(field + " is a constant", Modifier.isFinal(field.getModifiers()) && (type == int.class || type == long.class));
+                Check.isTrue(field + " is a constant",
+                    Modifier.isFinal(field.getModifiers()) && (type == int.class || type == long.class));
             } else {
                 own++;
                 Class<?> kind = type.isArray() ? type.getComponentType() : type;

@@ -182,11 +182,13 @@ public final class SpoilTest {
     private static void refusedIfNotThere() {
         for (int window : Check.NO_WINDOWS) {
             Check.refused("spoil(" + window + ", 0, 0, 255)", Screens.SOME_THERE, s -> s.spoil(window, 0, 0, 255));
-            Check.refused("spoil(" + window + ", 0, 0, 255), all there", Screens.ALL_THERE, s -> s.spoil(window, 0, 0, 255));
+            Check.refused("spoil(" + window + ", 0, 0, 255), all there", Screens.ALL_THERE,
+                s -> s.spoil(window, 0, 0, 255));
         }
         for (int window = 1; window < 6; window++) {
             int number = window;
-            Check.refused("spoil(" + number + ", 0, 0, 255), base alone", Screens.BASE_ALONE, s -> s.spoil(number, 0, 0, 255));
+            Check.refused("spoil(" + number + ", 0, 0, 255), base alone", Screens.BASE_ALONE,
+                s -> s.spoil(number, 0, 0, 255));
         }
         Check.refused("spoil(4, 0, 0, 0), not there and empty", Screens.SOME_THERE, s -> s.spoil(4, 0, 0, 0));
     }
