@@ -89,24 +89,36 @@ final class Check {
         nothingShowsLater(what, made, call);
     }
 
-    // What is hidden or covered can't be asked for: windows are shown and hidden in every way, once
-    // after the call and once without it.
+    // What is hidden or covered can't be asked for: it comes to light by further calls, which are
+    // made once after the call and once without it.
     private static void nothingShowsLater(String what, Supplier<DamageScreen> made, ToIntFunction<DamageScreen> call) {
         for (int shown = 0; shown < 64; shown += 2) {
-            DamageScreen without = made.get();
-            DamageScreen with = made.get();
-            call.applyAsInt(with);
-            String later = what + ", then windows " + Integer.toBinaryString(shown) + " shown";
-            same(later + ": answers", showSome(without, shown), showSome(with, shown));
-            same(later, state(without), state(with));
-            same(later + ": make and destroy", makeAndDestroy(without), makeAndDestroy(with));
+            int windows = shown;
+            String later = what + ", then windows " + Integer.toBinaryString(windows) + " shown";
+            sameLater(later, made, call, s -> showSome(s, windows));
+        }
+        for (int number = 1; number < 6; number++) {
+            int window = number;
+            sameLater(what + ", then raise(" + window + ", true)", made, call, s -> s.raise(window, true));
+            sameLater(what + ", then raise(" + window + ", false)", made, call, s -> s.raise(window, false));
+            sameLater(what + ", then destroy(" + window + ")", made, call, s -> s.destroy(window));
         }
     }
 
-    private static String showSome(DamageScreen screen, int shown) {
-        String answers = "";
+    private static void sameLater(String what, Supplier<DamageScreen> made, ToIntFunction<DamageScreen> call,
+            ToIntFunction<DamageScreen> later) {
+        DamageScreen without = made.get();
+        DamageScreen with = made.get();
+        call.applyAsInt(with);
+        due(what, later.applyAsInt(without), later.applyAsInt(with));
+        same(what + ", state", state(without), state(with));
+        same(what + ", make and destroy", makeAndDestroy(without), makeAndDestroy(with));
+    }
+
+    private static int showSome(DamageScreen screen, int windows) {
+        int answers = 0;
         for (int window = 1; window < 6; window++) {
-            answers += screen.show(window, (shown >> window & 1) == 1) + " ";
+            answers += screen.show(window, (windows >> window & 1) == 1);
         }
         return answers;
     }

@@ -16,6 +16,7 @@ final class Sides {
         int height = side(size >> 4 & 15);
         screen.move(1, 0, 0);
         Check.due(what + ", seen from the left upper corner", width * Math.min(height, 10), screen.visible(1));
+        Check.due(what + ", dirty as it is new", width * Math.min(height, 10), screen.paint(1));
         screen.move(1, 0, -9);
         Check.due(what + ", seen from row 9 on", width * Math.max(height - 9, 0), screen.visible(1));
         screen.move(1, 1 - width, 1 - height);
