@@ -14,6 +14,8 @@ public final class LongUseTest {
         raises("u", CALLS);
         raises("d", CALLS);
         raises("uud", CALLS);
+        raisesAlone(true);
+        raisesAlone(false);
         makesAndDestroys();
         makesInFullness();
         movesToAndFro();
@@ -42,6 +44,31 @@ public final class LongUseTest {
                 order.add(up ? 2 : 0, window);
             }
         }
+    }
+
+    /** One window, 510 raises of it, and a last call. */
+    private static void raisesAlone(boolean up) {
+        String after = " as the 512th call, after 510 of raise(1, " + up + ")";
+        Check.due("visible(1)" + after, 6, raised(up).visible(1));
+        Check.due("owner(2, 1)" + after, 1, raised(up).owner(2, 1));
+        Check.due("dirty(2, 1)" + after, 1, raised(up).dirty(2, 1));
+        Check.due("paint(1)" + after, 6, raised(up).paint(1));
+        Check.due("spoil(1, 0, 0, 255)" + after, 0, raised(up).spoil(1, 0, 0, 255));
+        Check.due("make(0, 0)" + after, 2, raised(up).make(0, 0));
+        Check.due("destroy(1)" + after, 1, raised(up).destroy(1));
+        Check.due("move(1, 1, 1)" + after, 0, raised(up).move(1, 1, 1));
+        Check.due("size(1, 0)" + after, 0, raised(up).size(1, 0));
+        Check.due("raise(1, false)" + after, 0, raised(up).raise(1, false));
+        Check.due("show(1, false)" + after, 0, raised(up).show(1, false));
+    }
+
+    private static DamageScreen raised(boolean up) {
+        DamageScreen screen = new DamageScreen();
+        screen.make(0, 0x23);
+        for (int call = 2; call < CALLS; call++) {
+            screen.raise(1, up);
+        }
+        return screen;
     }
 
     private static void makesAndDestroys() {
